@@ -384,7 +384,7 @@ public final class ClauseLedger {
     private boolean differencesAgree() {
         for (Clause clause : book.clauses) {
             if (clause.exists) {
-                long first = clause.firstText();
+                long first = clause.textOnDay(clause.firstDay());
                 long present = clause.textOnDay(book.today);
                 if (differences.byBeginnings(first, present) != differences.byEnds(first, present)) {
                     return false;
@@ -608,8 +608,8 @@ public final class ClauseLedger {
             return count;
         }
 
-        long firstText() {
-            return versionTexts[0];
+        int firstDay() {
+            return versionDays[0];
         }
 
         long latestText() {

@@ -8,8 +8,10 @@ final class CitesTest {
     public static void main(String[] args) {
         promises32And33();
         promise34();
-        promises35And36();
-        longWays();
+        shortWays("35", ClauseLedger::citesIndirectly);
+        shortWays("36", ClauseLedger::citesByClosure);
+        longWays("35", ClauseLedger::citesIndirectly);
+        longWays("36", ClauseLedger::citesByClosure);
         promise37();
         Check.end();
     }
@@ -53,56 +55,54 @@ final class CitesTest {
         Check.same("34 empty", new ClauseLedger().brokenCites(), 0);
     }
 
-    private static void indirectly(String what, ClauseLedger ledger, int clause, int cited, boolean due) {
-        Check.same("35 " + what, ledger.citesIndirectly(clause, cited), due);
-        Check.same("36 " + what, ledger.citesByClosure(clause, cited), due);
+    /** One of the two ways; each is tried on ledgers of its own, so that neither finds what the other left. */
+    private interface Way {
+        boolean cites(ClauseLedger ledger, int clause, int cited);
     }
 
-    private static void promises35And36() {
+    private static void shortWays(String promise, Way way) {
         ClauseLedger ledger = Ledgers.three();
         ledger.addClause(40, 'd');
-        indirectly("not itself", ledger, 0, 0, false);
+        Check.same(promise + " not itself", way.cites(ledger, 0, 0), false);
         ledger.cite(0, 1);
         ledger.cite(1, 2);
-        indirectly("one cite", ledger, 0, 1, true);
-        indirectly("two cites", ledger, 0, 2, true);
-        indirectly("not back", ledger, 2, 0, false);
-        indirectly("not to itself", ledger, 0, 0, false);
+        Check.same(promise + " one cite", way.cites(ledger, 0, 1), true);
+        Check.same(promise + " two cites", way.cites(ledger, 0, 2), true);
+        Check.same(promise + " not back", way.cites(ledger, 2, 0), false);
+        Check.same(promise + " not to itself", way.cites(ledger, 0, 0), false);
         ledger.cite(2, 0);
-        indirectly("itself", ledger, 0, 0, true);
-        indirectly("itself, too", ledger, 1, 1, true);
-        indirectly("not the fourth", ledger, 0, 3, false);
-        indirectly("not from the fourth", ledger, 3, 0, false);
+        Check.same(promise + " itself", way.cites(ledger, 0, 0), true);
+        Check.same(promise + " itself, too", way.cites(ledger, 1, 1), true);
+        Check.same(promise + " not the fourth", way.cites(ledger, 0, 3), false);
+        Check.same(promise + " not from the fourth", way.cites(ledger, 3, 0), false);
         ledger.setSunset(1, 0);
         ledger.advance(1);
-        indirectly("by a lapsed one", ledger, 0, 2, true);
+        Check.same(promise + " by a lapsed one", way.cites(ledger, 0, 2), true);
         ledger.repeal(1);
-        indirectly("not by a repealed one", ledger, 0, 2, false);
-        indirectly("the rest", ledger, 2, 0, true);
+        Check.same(promise + " not by a repealed one", way.cites(ledger, 0, 2), false);
+        Check.same(promise + " the rest", way.cites(ledger, 2, 0), true);
         ledger.addClause(20, 'a');
-        indirectly("a new clause is not the repealed one", ledger, 0, 4, false);
+        Check.same(promise + " a new clause is not the repealed one", way.cites(ledger, 0, 4), false);
         for (int none : new int[] {1, -1, 5}) {
-            Check.refused("35 from " + none, NO_ELEMENT, () -> ledger.citesIndirectly(none, 0));
-            Check.refused("35 to " + none, NO_ELEMENT, () -> ledger.citesIndirectly(0, none));
-            Check.refused("36 from " + none, NO_ELEMENT, () -> ledger.citesByClosure(none, 0));
-            Check.refused("36 to " + none, NO_ELEMENT, () -> ledger.citesByClosure(0, none));
+            Check.refused(promise + " from " + none, NO_ELEMENT, () -> way.cites(ledger, none, 0));
+            Check.refused(promise + " to " + none, NO_ELEMENT, () -> way.cites(ledger, 0, none));
         }
     }
 
     /** A ring through all 16 clauses in an order that jumps, so that each way is as long as can be. */
-    private static void longWays() {
+    private static void longWays(String promise, Way way) {
         ClauseLedger ledger = Ledgers.full();
         for (int step = 0; step < 15; step++) {
             ledger.cite(step * 5 % 16, (step + 1) * 5 % 16);
         }
-        indirectly("the longest way", ledger, 0, 75 % 16, true);
-        indirectly("the ring is open", ledger, 75 % 16, 0, false);
+        Check.same(promise + " the longest way", way.cites(ledger, 0, 75 % 16), true);
+        Check.same(promise + " the ring is open", way.cites(ledger, 75 % 16, 0), false);
         ledger.cite(75 % 16, 0);
         for (int id = 0; id < 16; id++) {
-            indirectly("ring from " + id, ledger, id, id, true);
+            Check.same(promise + " ring from " + id, way.cites(ledger, id, id), true);
         }
         ledger.uncite(5, 10);
-        indirectly("cut", ledger, 0, 10, false);
+        Check.same(promise + " cut", way.cites(ledger, 0, 10), false);
     }
 
     private static void promise37() {
@@ -116,6 +116,7 @@ final class CitesTest {
         ledger.cite(3, 0);
         ledger.cite(0, 1);
         ledger.cite(3, 2);
+        Check.same("37 first of those cited", ledger.clauseByCites(0), 0);
         Check.same("37 by citing clauses, then by section", ranks(ledger), "0213");
         ledger.repeal(3);
         Check.same("37 repealed ones do not cite", ranks(ledger), "102");

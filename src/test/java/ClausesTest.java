@@ -100,6 +100,7 @@ final class ClausesTest {
         Check.same("20 after the sunset", ledger.hasLapsed(0), true);
         Check.same("20 before the sunset", ledger.hasLapsed(1), false);
         Check.same("20 no sunset", ledger.hasLapsed(2), false);
+        Check.same("22 four days before", ledger.daysUntilLapsed(1), 5);
         Check.same("22 lapsed", ledger.daysUntilLapsed(0), 0);
         ledger.advance(9);
         Check.same("22 lapsed long ago", ledger.daysUntilLapsed(1), 0);

@@ -22,7 +22,12 @@ final class Picture {
         picture.append(id).append(" section ").append(ledger.section(id));
         picture.append(" enacted ").append(ledger.enactedOn(id));
         picture.append(" sunset ").append(Check.answerOf(() -> ledger.sunset(id)));
-        picture.append(" versions ").append(ledger.versionCount(id)).append(' ').append(text(ledger, id));
+        picture.append(" versions ").append(ledger.versionCount(id));
+        for (int day = ledger.enactedOn(id); day < ledger.day(); day++) {
+            int asked = day;
+            picture.append(' ').append(Check.answerOf(() -> textOn(ledger, id, asked)));
+        }
+        picture.append(' ').append(text(ledger, id));
         picture.append(" cites ").append(cites(ledger, id));
         return picture.toString();
     }

@@ -1,4 +1,5 @@
 import java.util.NoSuchElementException;
+import java.util.function.Function;
 
 /** Promises 47 to 55. */
 final class ScriptsTest {
@@ -13,9 +14,12 @@ final class ScriptsTest {
         everyCommand();
         manyCommands();
         errorPositions();
+        errorPositionsBehindKeywords();
+        latestErrorPosition();
         failedCommands();
         promise53();
         undoOfEachChange();
+        keptByUndo();
         promises54And55();
         Check.end();
     }
@@ -102,60 +106,75 @@ final class ScriptsTest {
         Check.same("50 undone", ledger.editionCount(), 0);
     }
 
+    private static void errorAt(String script, int due) {
+        errorAt(new ClauseLedger(), script, due);
+    }
+
     private static void errorAt(ClauseLedger ledger, String script, int due) {
         Check.same("50 \"" + script + "\"", run(ledger, script), ARGUMENT);
         Check.same("51 \"" + script + "\"", ledger.errorPosition(), due);
     }
 
     private static void errorPositions() {
+        errorAt("", 0);
+        errorAt(" ", 0);
+        errorAt(";", 0);
+        errorAt("b", 0);
+        errorAt("Edit", 0);
+        errorAt("c", 1);
+        errorAt("cx", 1);
+        errorAt("cutt", 3);
+        errorAt("cute 0 1", 3);
+        errorAt("s", 1);
+        errorAt("suet", 2);
+        errorAt("un", 2);
+        errorAt("edit ;edit", 4);
+        errorAt("edit;", 5);
+        errorAt("edit;;edit", 5);
+        errorAt("edit;ed", 7);
+        errorAt("wait 1;wait", 11);
+    }
+
+    private static void errorPositionsBehindKeywords() {
+        errorAt("add", 3);
+        errorAt("add  1 a", 4);
+        errorAt("add a", 4);
+        errorAt("add 1a", 5);
+        errorAt("add 1 h", 6);
+        errorAt("add 1 aa", 7);
+        errorAt("add 1 a ;edit", 7);
+        errorAt("add 1234 a", 7);
+        errorAt("add 123", 7);
+        errorAt("add -1 a", 4);
+        errorAt("add 9 a;put 0 1 b", 15);
+        errorAt("add 9 a;put 0 1", 15);
+        errorAt("add 9 a;put 0a", 13);
+        errorAt("add 9 a;wait -1", 13);
+        errorAt("sunset 1", 8);
+        errorAt("sunset 1 ", 9);
+        errorAt("sunset 1 1234", 12);
+        errorAt("set 1 000", 9);
+        errorAt("set 1 0000a", 9);
+        errorAt("repeal 1 2", 8);
+    }
+
+    private static void latestErrorPosition() {
         ClauseLedger ledger = new ClauseLedger();
         Check.refused("51 none", NO_ELEMENT, ledger::errorPosition);
-        errorAt(ledger, "", 0);
-        errorAt(ledger, " ", 0);
-        errorAt(ledger, ";", 0);
-        errorAt(ledger, "b", 0);
-        errorAt(ledger, "c", 1);
-        errorAt(ledger, "cx", 1);
-        errorAt(ledger, "cutt", 3);
-        errorAt(ledger, "cute 0 1", 3);
-        errorAt(ledger, "s", 1);
-        errorAt(ledger, "suet", 2);
-        errorAt(ledger, "sunset 1", 8);
-        errorAt(ledger, "sunset 1 ", 9);
-        errorAt(ledger, "sunset 1 1234", 12);
-        errorAt(ledger, "un", 2);
-        errorAt(ledger, "add", 3);
-        errorAt(ledger, "add  1 a", 4);
-        errorAt(ledger, "add a", 4);
-        errorAt(ledger, "add 1a", 5);
-        errorAt(ledger, "add 1 h", 6);
-        errorAt(ledger, "add 1 aa", 7);
-        errorAt(ledger, "add 1 a ;edit", 7);
-        errorAt(ledger, "add 1234 a", 7);
-        errorAt(ledger, "add 123", 7);
-        errorAt(ledger, "add -1 a", 4);
-        errorAt(ledger, "add 9 a;put 0 1 b", 15);
-        errorAt(ledger, "add 9 a;put 0 1", 15);
-        errorAt(ledger, "add 9 a;put 0a", 13);
-        errorAt(ledger, "add 9 a;wait -1", 13);
-        Check.same("50 nothing took effect", ledger.addedTotal(), 0);
+        errorAt(ledger, "edit;add", 8);
+        Check.same("50 nothing took effect", ledger.editionCount(), 0);
+        Check.refused("50 no change", NO_ELEMENT, ledger::undo);
         Check.same("50 a good one", run(ledger, "edit"), 1);
-        Check.same("51 stays after a good script", ledger.errorPosition(), 13);
-        errorAt(ledger, "edit ;edit", 4);
-        errorAt(ledger, "edit;", 5);
-        errorAt(ledger, "edit;;edit", 5);
-        errorAt(ledger, "edit;ed", 7);
-        errorAt(ledger, "Edit", 0);
-        errorAt(ledger, "set 1 000", 9);
-        errorAt(ledger, "set 1 0000a", 9);
-        errorAt(ledger, "repeal 1 2", 8);
-        errorAt(ledger, "wait 1;wait", 11);
-        Check.same("50 effects of good ones only", ledger.editionCount(), 1);
-        Check.refused("52 none", NO_ELEMENT, ledger::failedCommand);
+        Check.same("51 stays after a good script", ledger.errorPosition(), 8);
+        Check.same("50 a failing one", run(ledger, "wait 0"), STATE);
+        Check.same("51 stays after a failing script", ledger.errorPosition(), 8);
+        errorAt(ledger, "?", 0);
+        Check.same("52 stays after an error", ledger.failedCommand(), 0);
     }
 
     private static void failedCommands() {
         ClauseLedger ledger = new ClauseLedger();
+        Check.refused("52 none", NO_ELEMENT, ledger::failedCommand);
         ledger.addClause(5, 'a');
         ledger.insertNote(0, 0, 'b');
         String before = Picture.clause(ledger, 0);
@@ -216,40 +235,63 @@ final class ScriptsTest {
         return ledger.addClause(3, 'a');
     }
 
-    /** Undoes each kind of change, one that leaves the state as it is, and what is no change. */
     private static void undoOfEachChange() {
-        ClauseLedger ledger = Ledgers.fourCites();
-        for (int fill = 0; fill < 8; fill++) {
-            ledger.replaceNote(5, 0, 'e');
-            ledger.consolidate();
-        }
-        String start = Picture.of(ledger);
-        ledger.addClause(77, 'a');
-        ledger.insertNote(0, 0, 'a');
-        ledger.replaceNote(0, 0, 'a');
-        ledger.deleteNote(0, 0);
-        ledger.setSunset(0, 9);
-        ledger.uncite(0, 3);
-        ledger.cite(0, 5);
+        undoes("addClause", ledger -> ledger.addClause(77, 'a'));
+        undoes("insertNote", ledger -> ledger.insertNote(0, 1, 'a'));
+        undoes("replaceNote", ledger -> ledger.replaceNote(0, 0, 'g'));
+        undoes("replaceNote by the same", ledger -> ledger.replaceNote(0, 0, ledger.noteAt(0, 0)));
+        undoes("deleteNote", ledger -> ledger.deleteNote(0, 0));
+        undoes("first setSunset", ledger -> ledger.setSunset(0, 9));
+        undoes("setSunset", ledger -> ledger.setSunset(1, 9));
+        undoes("setSunset to the same day", ledger -> ledger.setSunset(1, 3));
+        undoes("cite", ledger -> ledger.cite(0, 1));
+        undoes("uncite", ledger -> ledger.uncite(0, 2));
+        undoes("repeal", ledger -> ledger.repeal(0));
+        undoes("consolidate", ClauseLedger::consolidate);
+        undoes("advance", ledger -> ledger.advance(2));
+        undoes("runScript", ledger -> run(ledger, "wait 2;edit;repeal 0;add 50 a;put 3 0b"));
+    }
+
+    /** Two clauses on day 3: clause 0 has three versions and cites a repealed one, clause 1 has a sunset. */
+    private static ClauseLedger eventful() {
+        ClauseLedger ledger = Ledgers.three();
+        ledger.cite(0, 2);
+        ledger.advance(1);
+        ledger.consolidate();
+        ledger.insertNote(0, 0, 'e');
+        ledger.setSunset(1, 3);
         ledger.repeal(2);
-        Check.refused("53 no change", NO_ELEMENT, () -> ledger.repeal(2));
+        ledger.advance(2);
+        ledger.insertNote(0, 2, 'f');
+        return ledger;
+    }
+
+    private static void undoes(String change, Function<ClauseLedger, ?> call) {
+        ClauseLedger ledger = eventful();
+        String before = Picture.of(ledger);
+        call.apply(ledger);
+        Check.refused("53 refused after " + change, NO_ELEMENT, () -> ledger.repeal(99));
+        Check.same("53 left after " + change, ledger.undo(), 7);
+        Check.same("53 " + change, Picture.of(ledger), before);
+        Check.same("53 next id after " + change, ledger.addClause(88, 'a'), 3);
+    }
+
+    /** The buffer, the output text, the latest error and the snapshot stay as they are at an undo. */
+    private static void keptByUndo() {
+        ClauseLedger ledger = new ClauseLedger();
+        ledger.addClause(5, 'a');
         ledger.renderClause(0);
-        ledger.type('x');
+        Check.same("53 not a script", run(ledger, "edit;x"), ARGUMENT);
+        Check.same("53 a failing one", run(ledger, "edit;add 1 b"), STATE);
         ledger.save();
-        String[] due = {">1>2>4>5", ">1>2>4", ">1>2>3>4", ">1>2>3>4"};
-        for (int step = 0; step < due.length; step++) {
-            Check.same("53 step " + step, ledger.undo(), 7 - step);
-            Check.same("53 cites after step " + step, Picture.cites(ledger, 0), due[step]);
-        }
-        Check.refused("53 sunset", NO_ELEMENT, () -> ledger.sunset(0));
-        Check.same("53 deletion", ledger.undo(), 3);
-        Check.same("53 text", Picture.text(ledger, 0), "ae");
-        Check.same("53 replacement", ledger.undo(), 2);
-        Check.same("53 versions", ledger.versionCount(0), 2);
-        ledger.undo();
-        Check.same("53 last", ledger.undo(), 0);
-        Check.same("53 as at the start", Picture.of(ledger), start);
-        Check.same("53 buffer stays", ledger.type('y'), 2);
+        ledger.type('e');
+        Check.same("53 only the clause", ledger.undo(), 0);
+        Check.same("53 no clause", ledger.clauseCount(), 0);
+        Check.same("53 output stays", output(ledger, 3), "5:a");
+        Check.same("53 error position stays", ledger.errorPosition(), 5);
+        Check.same("53 failed command stays", ledger.failedCommand(), 1);
+        Check.same("53 buffer stays", run(ledger, "dit"), 1);
+        Check.same("53 snapshot stays", ledger.restore(), 1);
     }
 
     private static void promises54And55() {
@@ -274,7 +316,20 @@ final class ScriptsTest {
         Check.same("54 replaces", ledger.save(), 2);
         ledger.repeal(2);
         Check.same("55 the later one", ledger.restore(), 2);
+        restoreOfAll();
         keptByRestore();
+    }
+
+    private static void restoreOfAll() {
+        ClauseLedger ledger = eventful();
+        String saved = Picture.of(ledger);
+        Check.same("54 two", ledger.save(), 2);
+        run(ledger, "wait 2;edit;repeal 0;add 50 a;put 3 0b;sunset 3 90");
+        ledger.consolidate();
+        Check.same("55 two", ledger.restore(), 2);
+        Check.same("55 all as saved", Picture.of(ledger), saved);
+        Check.same("55 edition day", ledger.editionDay(1), 1);
+        Check.same("55 next id", ledger.addClause(88, 'a'), 3);
     }
 
     private static void keptByRestore() {
