@@ -91,6 +91,15 @@ final class VersionsTest {
         Check.same("28 long texts", ledger.difference(0, 0, 1), 7);
         Check.same("29 long texts", ledger.differenceByEnds(0, 0, 1), 7);
 
+        ClauseLedger twelve = Ledgers.withText("abcdefgabcde");
+        twelve.advance(1);
+        twelve.replaceNote(0, 11, 'a');
+        twelve.replaceNote(0, 0, 'g');
+        Check.same("28 twelve notes each", twelve.difference(0, 0, 1), 4);
+        Check.same("29 twelve notes each", twelve.differenceByEnds(0, 0, 1), 4);
+        Check.same("28 twelve notes, the same", twelve.difference(0, 1, 1), 0);
+        Check.same("29 twelve notes, the same", twelve.differenceByEnds(0, 1, 1), 0);
+
         ClauseLedger moved = Ledgers.withText("abcd");
         moved.advance(1);
         moved.replaceNote(0, 0, 'b');
@@ -117,6 +126,23 @@ final class VersionsTest {
         ledger.replaceNote(0, 0, 'a');
         pairs("only present texts count", ledger, 0);
         pairs("empty", new ClauseLedger(), 0);
+        manyTexts();
+    }
+
+    /** Notes a to g in turn, then each text made longer, so that up to 16 texts are told apart at once. */
+    private static void manyTexts() {
+        ClauseLedger ledger = new ClauseLedger();
+        for (int id = 0; id < 16; id++) {
+            ledger.addClause(id + 1, (char) ('a' + id % 7));
+        }
+        pairs("seven texts", ledger, 11);
+        for (int id = 0; id < 16; id++) {
+            ledger.insertNote(id, 1, (char) ('a' + id / 7));
+            pairs("longer up to " + id, ledger, new int[] {9, 7, 6, 5, 4, 3, 2, 1, 0}[Math.min(id, 8)]);
+        }
+        ledger.replaceNote(15, 0, 'a');
+        ledger.replaceNote(15, 1, 'a');
+        pairs("one pair among sixteen", ledger, 1);
     }
 
     private static void pairs(String what, ClauseLedger ledger, int due) {
