@@ -1,3 +1,6 @@
+import java.lang.reflect.InvocationTargetException;
+import java.lang.reflect.Method;
+import java.lang.reflect.Modifier;
 import java.util.function.Function;
 import java.util.function.Supplier;
 
@@ -30,14 +33,42 @@ final class Check {
         same(what, answerOf(call), due);
     }
 
-    /** The call throws on a fresh ledger, and the ledger looks afterwards as it did before. */
+    /**
+     * The call throws on a fresh ledger, and the ledger looks afterwards as a twin that did without it. A look
+     * can change a ledger, so each has a pair of its own.
+     */
     static void leavesAsIs(String what, Class<? extends RuntimeException> due,
             Supplier<ClauseLedger> start, Function<ClauseLedger, ?> call) {
-        ClauseLedger ledger = start.get();
-        String before = Picture.of(ledger);
-        refused(what, due, () -> call.apply(ledger));
-        same(what + ", picture", Picture.of(ledger), before);
-        same(what + ", undo", answerOf(ledger::undo), answerOf(start.get()::undo));
+        for (Look look : Look.values()) {
+            ClauseLedger ledger = start.get();
+            refused(what, due, () -> call.apply(ledger));
+            same(what + ", " + look, look.at(ledger), look.at(start.get()));
+        }
+    }
+
+    /** Runs every method of a test class that takes nothing, so that none is left out by oversight. */
+    static void runAll(Class<?> tests) {
+        for (Method method : tests.getDeclaredMethods()) {
+            if (isTest(method)) {
+                run(method);
+            }
+        }
+    }
+
+    static boolean isTest(Method method) {
+        return method.getParameterCount() == 0 && method.getReturnType() == void.class && !method.isSynthetic()
+                && Modifier.isStatic(method.getModifiers()) && !Modifier.isPrivate(method.getModifiers());
+    }
+
+    private static void run(Method method) {
+        try {
+            method.invoke(null);
+        } catch (InvocationTargetException thrown) {
+            thrown.getCause().printStackTrace(System.out);
+            same(method.getName(), thrown.getCause().getClass(), "no exception");
+        } catch (IllegalAccessException closed) {
+            throw new IllegalStateException(closed);
+        }
     }
 
     static void end() {

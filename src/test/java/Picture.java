@@ -48,6 +48,16 @@ final class Picture {
         return text.toString();
     }
 
+    static String output(ClauseLedger ledger) {
+        StringBuilder output = new StringBuilder();
+        Object next = Check.answerOf(() -> ledger.outputAt(0));
+        while (next instanceof Character && output.length() < 100) {
+            output.append(next);
+            next = Check.answerOf(() -> ledger.outputAt(output.length()));
+        }
+        return output.toString();
+    }
+
     static String cites(ClauseLedger ledger, int id) {
         StringBuilder cites = new StringBuilder();
         for (int position = 0; position < ledger.citeCount(id); position++) {

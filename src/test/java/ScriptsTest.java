@@ -69,8 +69,7 @@ final class ScriptsTest {
     }
 
     private static Object run(ClauseLedger ledger, String script) {
-        Ledgers.typeAll(ledger, script);
-        return Check.answerOf(ledger::runScript);
+        return Ledgers.run(ledger, script);
     }
 
     private static void everyCommand() {
