@@ -251,6 +251,7 @@ final class OutputEdgesTest {
         Check.same("the eighth", ledger.undo(), 7);
         Check.same("the seventh", ledger.undo(), 6);
         Check.same("six days", ledger.day(), 6);
+        // An undone change is none of the latest eight any more, so the new one takes no place of an older one.
         ledger.advance(100);
         Check.same("the new one", ledger.undo(), 6);
         Check.same("six days again", ledger.day(), 6);

@@ -229,6 +229,23 @@ final class VersionsEdgesTest {
         Check.same("a repealed one does not", way.applyAsInt(ledger), 0);
         Check.same("full, all the same", way.applyAsInt(Ledgers.full()), 120);
         Check.same("the order of notes counts", way.applyAsInt(anagrams()), 0);
+        for (int number = 0; number < 7 * 7 * 7; number++) {
+            pairOf(number, way);
+        }
+    }
+
+    /** A pair of texts of three notes, counted again when it is none: no place in a hash map may remember it. */
+    private static void pairOf(int number, ToIntFunction<ClauseLedger> way) {
+        ClauseLedger ledger = new ClauseLedger();
+        for (int id = 0; id < 2; id++) {
+            ledger.addClause(id + 1, (char) ('a' + number % 7));
+            ledger.insertNote(id, 0, (char) ('a' + number / 7 % 7));
+            ledger.insertNote(id, 0, (char) ('a' + number / 49));
+        }
+        Check.same("text " + number, way.applyAsInt(ledger), 1);
+        Check.same("text " + number + " again", way.applyAsInt(ledger), 1);
+        ledger.deleteNote(1, 0);
+        Check.same("text " + number + " once", way.applyAsInt(ledger), 0);
     }
 
     /** Sixteen clauses whose texts have the same notes in as many orders. */
